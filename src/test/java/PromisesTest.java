@@ -409,6 +409,7 @@ public final class PromisesTest {
 
     private static void promise12Depends() {
         dueDepends("ALL P", deskWith(ALL, p(0)), 0b000011);
+        dueDepends("ALL NOT P", deskWith(ALL, NOT, p(0)), 0b000011);
         dueDepends("SOME R(0, 0)", deskWith(SOME, r(0, 0)), 0b100100);
         dueDepends("ALL SOME R", deskWith(ALL, SOME, r(0, 1)), 0b111100);
         dueDepends("everything", deskWith(ALL, ALL, AND, p(0), r(0, 1)), 0b111111);
