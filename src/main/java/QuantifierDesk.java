@@ -30,7 +30,7 @@ public final class QuantifierDesk {
     private static final int CHOICES = 16;
 
     private static final int PLACES = MOST_TOKENS + 1;
-    private static final int CELLS = MOST_TOKENS * CHOICES;
+    private static final int CELLS = PLACES * CHOICES;
 
     private final int[] tokens = new int[MOST_TOKENS];
     private int size = 0;
@@ -45,8 +45,8 @@ public final class QuantifierDesk {
     private final int[] depths = new int[PLACES];
     /** The depths of the places that still want a formula, the next one to be filled last. */
     private final int[] openDepths = new int[PLACES];
-    /** Where the subformula that begins at a token has ended. */
-    private final int[] ends = new int[MOST_TOKENS];
+    /** Where the subformula that begins at a token has ended; never past the place after the last token. */
+    private final int[] ends = new int[PLACES];
     /** For the subformula that begins at token k, under choice c: its models, at k * CHOICES + c. */
     private final long[] modelsOf = new long[CELLS];
 
@@ -226,7 +226,7 @@ public final class QuantifierDesk {
     private void findDepths() {
         int open = 1;
         openDepths[0] = 0;
-        for (int k = 0; k < size; k++) {
+        for (int k = 0; k < size && open > 0; k++) {
             int depth = openDepths[open - 1];
             depths[k] = depth;
             int inside = isQuantifier(tokens[k]) ? depth + 1 : depth;
@@ -241,9 +241,11 @@ public final class QuantifierDesk {
         }
     }
 
-    /** The interpretations in which the formula, which must be complete, is true. */
+    /** The interpretations in which the formula is true; says nothing about one that is not complete. */
     private long findModels() {
         findDepths();
+        // A part that is missing begins and ends here, so that no index can leave its array.
+        ends[size] = size;
         // From the last token back, so that the parts of each subformula are known before it.
         for (int k = size - 1; k >= 0; k--) {
             int wanted = parts(tokens[k]);
@@ -296,6 +298,7 @@ public final class QuantifierDesk {
     private void findQuantified(int k) {
         int part = (k + 1) * CHOICES;
         // The quantifiers are numbered from the outermost, so as many stand around one as its number says.
+        // feed lets no fifth one in: the number is at most 3, and a choice with its bit set is a choice.
         int own = 1 << depths[k];
         for (int choice = 0; choice < CHOICES; choice++) {
             long forThing0 = modelsOf[part + (choice & ~own)];
